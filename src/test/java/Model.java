@@ -1,6 +1,8 @@
 import java.util.ArrayList;
 import java.util.Arrays;
+import java.util.LinkedHashSet;
 import java.util.List;
+import java.util.Set;
 
 /**
  * The document told once more, as plainly as can be and without care for speed or room: lists of
@@ -286,6 +288,7 @@ final class Model {
         foundCreases = filled(count - 1);
         foundSlits = filled(count);
         foundDirt = filled(2 * count);
+        searched = false;
         return true;
     }
 
@@ -649,6 +652,7 @@ final class Model {
             return false;
         }
         row[i] = v;
+        searched = false;
         return true;
     }
 
@@ -658,6 +662,7 @@ final class Model {
             foundSlits[p] = slits[p] > 0 ? 1 : 0;
         }
         foundDirt = dirt.clone();
+        searched = false;
     }
 
     private static boolean fits(int[] marks, int[] found) {
@@ -669,14 +674,19 @@ final class Model {
         return true;
     }
 
+    private boolean searched;
     private int fitting;
     private List<Integer> firstRow;
-    private List<int[]> allCreases;
+    private Set<List<Integer>> allCreases;
 
     private void search() {
+        if (searched) {
+            return;
+        }
+        searched = true;
         fitting = 0;
         firstRow = null;
-        allCreases = new ArrayList<>();
+        allCreases = new LinkedHashSet<>();
         for (int turns = 0; turns <= 3; turns++) {
             searchTurns(flat(parts), turns, new int[parts - 1], new ArrayList<>());
         }
@@ -684,7 +694,7 @@ final class Model {
 
     private void searchTurns(List<List<Lying>> now, int turns, int[] marks, List<Integer> row) {
         if (turns == 0) {
-            allCreases.add(marks);
+            allCreases.add(Arrays.stream(marks).boxed().toList());
             searchSlits(now, marks, row);
             return;
         }
@@ -762,11 +772,11 @@ final class Model {
         if (fitting > 0) {
             return 1;
         }
-        for (int[] one : allCreases) {
-            for (int[] other : allCreases) {
-                int[] both = one.clone();
+        for (List<Integer> one : allCreases) {
+            for (List<Integer> other : allCreases) {
+                int[] both = new int[one.size()];
                 for (int i = 0; i < both.length; i++) {
-                    both[i] |= other[i];
+                    both[i] = one.get(i) | other.get(i);
                 }
                 if (fits(both, foundCreases)) {
                     return 2;

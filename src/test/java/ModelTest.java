@@ -18,7 +18,7 @@ public final class ModelTest {
     }
 
     public static void main(String[] args) {
-        int runs = args.length > 0 ? Integer.parseInt(args[0]) : 1500;
+        int runs = args.length > 0 ? Integer.parseInt(args[0]) : 1200;
         long seed = args.length > 1 ? Long.parseLong(args[1]) : 20261118;
         ModelTest test = new ModelTest(seed);
         for (int i = 0; i < runs; i++) {
@@ -31,13 +31,16 @@ public final class ModelTest {
         letter = new LockedLetter();
         model = new Model();
         run = new StringBuilder("run " + number + ": ");
-        int sort = number % 5;
-        for (int i = 0; i < 60; i++) {
+        int sort = number % 6;
+        int parts = 2 + below(sort == 2 || sort == 4 ? 4 : 7);
+        due("sheet(" + parts + ")", letter.sheet(parts) ? 1 : 0, model.sheet(parts) ? 1 : 0);
+        for (int i = 0; i < 50; i++) {
             switch (sort) {
                 case 0 -> textCall();
                 case 1 -> sheetCall(8);
                 case 2 -> findCall();
                 case 3 -> wayCall();
+                case 4 -> shutAndFind(number % 150 == 4 ? 8 : 5);
                 default -> anyCall();
             }
         }
@@ -146,14 +149,15 @@ public final class ModelTest {
     // ---- the sheet
 
     private void sheetCall(int most) {
-        int a = below(10) - 1;
-        int b = below(10) - 1;
+        int columns = model.count(1);
+        int a = below(4) == 0 ? below(10) - 1 : below(columns + 1);
+        int b = below(4) == 0 ? below(11) - 1 : 1 + below(4);
         boolean c = coin();
         boolean d = coin();
         switch (below(16)) {
             case 0 -> {
                 int parts = below(6) == 0 ? a : 2 + below(most - 1);
-                boolean any = below(4) == 0;
+                boolean any = below(3) == 0;
                 due("sheet(" + parts + ")", any && parts <= most && letter.sheet(parts) ? 1 : 0,
                     any && parts <= most && model.sheet(parts) ? 1 : 0);
             }
@@ -206,6 +210,56 @@ public final class ModelTest {
             }
             case 4 -> askRows();
             default -> sheetCall(4);
+        }
+    }
+
+    /** A SHEET that is shut, once or twice, its MARKS found, and some of them lost or spoilt again. */
+    private void shutAndFind(int most) {
+        int parts = 2 + below(most - 1);
+        if (most > 5 && below(12) > 0) {
+            return;
+        }
+        due("sheet(" + parts + ")", letter.sheet(parts) ? 1 : 0, model.sheet(parts) ? 1 : 0);
+        for (int i = below(6) == 0 ? 5 : below(4); i > 0; i--) {
+            turnCall();
+        }
+        if (below(4) == 0) {
+            for (int i = model.count(2); i > 0; i--) {
+                due("undo()", letter.undo(), model.undo());
+            }
+            turnCall();
+            turnCall();
+        }
+        if (coin()) {
+            int column = below(model.count(1));
+            int k = 1 + below(model.layers(column));
+            due("slit(" + column + ", " + k + ")", letter.slit(column, k), model.slit(column, k));
+        }
+        if (coin()) {
+            due("soil()", letter.soil(), model.soil());
+        }
+        letter.finds();
+        model.finds();
+        run.append("finds(); ");
+        askRows();
+        for (int i = below(4) * below(8); i > 0; i--) {
+            int what = below(3);
+            int at = below(what == 2 ? 2 * parts : parts);
+            int v = below(8) == 0 ? below(what == 0 ? 4 : 2) : -1;
+            due("find(" + what + ", " + at + ", " + v + ")", letter.find(what, at, v) ? 1 : 0, model.find(what, at, v) ? 1 : 0);
+        }
+        askRows();
+    }
+
+    private void turnCall() {
+        int x = 1 + below(Math.max(1, model.count(1) - 1));
+        boolean left = coin();
+        if (coin()) {
+            boolean over = coin();
+            due("fold(" + x + ", " + left + ", " + over + ")", letter.fold(x, left, over), model.fold(x, left, over));
+        } else {
+            int level = 1 + below(3);
+            due("tuck(" + x + ", " + left + ", " + level + ")", letter.tuck(x, left, level), model.tuck(x, left, level));
         }
     }
 
