@@ -515,7 +515,6 @@ public final class LockedLetter {
             target.clear();
             waits = 0;
             wants = WANTS_RULE;
-            side = IN_VALUE;
             depth = 0;
             tape.next = 0;
             for (int token = 0; token <= MAX_TOKENS; token++) {
@@ -882,8 +881,9 @@ public final class LockedLetter {
             return layer[i] < layer[near] != layer[i + 1] < layer[far];
         }
 
+        /** Of a PART in the COLUMN of a CREASE; it is none of that one's own, as these hang on elsewhere. */
         private boolean isBetween(int i, int p) {
-            return layer[i] < layer[p] != layer[i + 1] < layer[p] && layer[i] != layer[p] && layer[i + 1] != layer[p];
+            return layer[i] < layer[p] != layer[i + 1] < layer[p];
         }
 
         int heightOf(int c) {
@@ -1329,6 +1329,7 @@ public final class LockedLetter {
         int firstOutcome;
         int firstSlit;
         boolean firstSoil;
+        int leastSlit;
         final Outcomes outcomes = new Outcomes();
         final Packet packet = new Packet();
         final int[] within = new int[ALL_CREASES / 32];
@@ -1407,37 +1408,25 @@ public final class LockedLetter {
             int endings = slitEndings() * soilEndings();
             if (endings > 0 && firstOutcome == NONE) {
                 firstOutcome = i;
-                firstSlit = leastSlit();
+                firstSlit = leastSlit;
                 firstSoil = dirt != 0;
             }
             fitting += endings * outcomes.ways[i];
         }
 
+        /** How many SLITS, or none, fit; leastSlit becomes the number of the first, 0 if that is none. */
         private int slitEndings() {
             int fits = slits == 0 ? 1 : 0;
+            leastSlit = 0;
             for (int c = 0; c < packet.columns; c++) {
                 for (int k = 1; k <= packet.height[c]; k++) {
                     if (fitsSlit(c, k)) {
+                        leastSlit = fits == 0 ? SLIT_NUMBER + 10 * c + k : leastSlit;
                         fits++;
                     }
                 }
             }
             return fits;
-        }
-
-        /** The number of the first SLIT that fits; 0 if none is needed. */
-        private int leastSlit() {
-            if (slits == 0) {
-                return 0;
-            }
-            for (int c = 0; c < packet.columns; c++) {
-                for (int k = 1; k <= packet.height[c]; k++) {
-                    if (fitsSlit(c, k)) {
-                        return SLIT_NUMBER + 10 * c + k;
-                    }
-                }
-            }
-            return 0;
         }
 
         private boolean fitsSlit(int c, int k) {

@@ -221,5 +221,16 @@ public final class FindsTest {
         CHECK.due("twice, if the second is none", x.shut(), 2);
         x.find(0, 2, 2);
         CHECK.due("once", x.shut(), 1);
+        LockedLetter y = of(6);
+        int[] others = {0, 0, 1, 3, 0};
+        for (int i = 0; i < 5; i++) {
+            y.find(0, i, others[i]);
+        }
+        CHECK.due("neither, of six parts", y.shut(), 0);
+        y.find(0, 0, -1);
+        CHECK.due("the first crease not known", y.shut(), 0);
+        y.find(0, 1, -1);
+        y.find(0, 4, -1);
+        CHECK.due("its neighbours not known", y.shut(), 2);
     }
 }

@@ -1,7 +1,9 @@
 import java.util.ArrayList;
 import java.util.Arrays;
+import java.util.HashMap;
 import java.util.LinkedHashSet;
 import java.util.List;
+import java.util.Map;
 import java.util.Set;
 
 /**
@@ -674,10 +676,13 @@ final class Model {
         return true;
     }
 
+    /** What some FOLDS and TUCKS make of a flat SHEET. */
+    private record Shape(List<List<Lying>> packet, int[] marks, List<Integer> row) { }
+
+    private static final Map<Integer, List<Shape>> SHAPES = new HashMap<>();
     private boolean searched;
     private int fitting;
     private List<Integer> firstRow;
-    private Set<List<Integer>> allCreases;
 
     private void search() {
         if (searched) {
@@ -686,18 +691,30 @@ final class Model {
         searched = true;
         fitting = 0;
         firstRow = null;
-        allCreases = new LinkedHashSet<>();
-        for (int turns = 0; turns <= 3; turns++) {
-            searchTurns(flat(parts), turns, new int[parts - 1], new ArrayList<>());
+        for (Shape shape : shapes(parts)) {
+            searchSlits(shape.packet, shape.marks, shape.row);
         }
     }
 
-    private void searchTurns(List<List<Lying>> now, int turns, int[] marks, List<Integer> row) {
+    /** All of them one by one, in the order of ROWS. */
+    private static List<Shape> shapes(int parts) {
+        List<Shape> all = SHAPES.get(parts);
+        if (all == null) {
+            all = new ArrayList<>();
+            for (int turns = 0; turns <= 3; turns++) {
+                turnOn(new Shape(flat(parts), new int[parts - 1], List.of()), turns, all);
+            }
+            SHAPES.put(parts, all);
+        }
+        return all;
+    }
+
+    private static void turnOn(Shape shape, int turns, List<Shape> all) {
         if (turns == 0) {
-            allCreases.add(Arrays.stream(marks).boxed().toList());
-            searchSlits(now, marks, row);
+            all.add(shape);
             return;
         }
+        List<List<Lying>> now = shape.packet;
         int most = 0;
         for (List<Lying> pile : now) {
             most = Math.max(most, pile.size());
@@ -710,9 +727,9 @@ final class Model {
                     if (last >= 2 && passes(next)) {
                         continue;
                     }
-                    int[] more = marks.clone();
+                    int[] more = shape.marks.clone();
                     mark(now, x, level > 0, more);
-                    searchTurns(next, turns - 1, more, with(row, 100 * x + 10 * side + last));
+                    turnOn(new Shape(next, more, with(shape.row, 100 * x + 10 * side + last)), turns - 1, all);
                 }
             }
         }
@@ -772,8 +789,12 @@ final class Model {
         if (fitting > 0) {
             return 1;
         }
-        for (List<Integer> one : allCreases) {
-            for (List<Integer> other : allCreases) {
+        Set<List<Integer>> creaseRows = new LinkedHashSet<>();
+        for (Shape shape : shapes(parts)) {
+            creaseRows.add(Arrays.stream(shape.marks).boxed().toList());
+        }
+        for (List<Integer> one : creaseRows) {
+            for (List<Integer> other : creaseRows) {
                 int[] both = new int[one.size()];
                 for (int i = 0; i < both.length; i++) {
                     both[i] = one.get(i) | other.get(i);

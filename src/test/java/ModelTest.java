@@ -18,7 +18,7 @@ public final class ModelTest {
     }
 
     public static void main(String[] args) {
-        int runs = args.length > 0 ? Integer.parseInt(args[0]) : 1200;
+        int runs = args.length > 0 ? Integer.parseInt(args[0]) : 600;
         long seed = args.length > 1 ? Long.parseLong(args[1]) : 20261118;
         ModelTest test = new ModelTest(seed);
         for (int i = 0; i < runs; i++) {
@@ -40,7 +40,7 @@ public final class ModelTest {
                 case 1 -> sheetCall(8);
                 case 2 -> findCall();
                 case 3 -> wayCall();
-                case 4 -> shutAndFind(number % 150 == 4 ? 8 : 5);
+                case 4 -> shutAndFind(8);
                 default -> anyCall();
             }
         }
@@ -216,9 +216,6 @@ public final class ModelTest {
     /** A SHEET that is shut, once or twice, its MARKS found, and some of them lost or spoilt again. */
     private void shutAndFind(int most) {
         int parts = 2 + below(most - 1);
-        if (most > 5 && below(12) > 0) {
-            return;
-        }
         due("sheet(" + parts + ")", letter.sheet(parts) ? 1 : 0, model.sheet(parts) ? 1 : 0);
         for (int i = below(6) == 0 ? 5 : below(4); i > 0; i--) {
             turnCall();
@@ -247,6 +244,11 @@ public final class ModelTest {
             int at = below(what == 2 ? 2 * parts : parts);
             int v = below(8) == 0 ? below(what == 0 ? 4 : 2) : -1;
             due("find(" + what + ", " + at + ", " + v + ")", letter.find(what, at, v) ? 1 : 0, model.find(what, at, v) ? 1 : 0);
+        }
+        askRows();
+        for (int i = 0; i < parts - 1; i++) {
+            int v = below(3) == 0 ? 3 : below(5) - 1;
+            due("find(0, " + i + ", " + v + ")", letter.find(0, i, v) ? 1 : 0, model.find(0, i, v) ? 1 : 0);
         }
         askRows();
     }

