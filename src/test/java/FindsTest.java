@@ -16,23 +16,8 @@ public final class FindsTest {
         CHECK.end();
     }
 
-    private static LockedLetter of(int parts) {
-        LockedLetter x = new LockedLetter();
-        x.sheet(parts);
-        return x;
-    }
-
-    private static void row(String what, LockedLetter x, int... due) {
-        for (int i = 0; i < due.length; i++) {
-            CHECK.due(what + ": row(" + i + ")", x.row(i), due[i]);
-        }
-        CHECK.due(what + ": no more", x.row(due.length), -1);
-        CHECK.due(what + ": row(-1)", x.row(-1), -1);
-        CHECK.due(what + ": row(most)", x.row(Integer.MAX_VALUE), -1);
-    }
-
     private static void finding() {
-        LockedLetter x = of(3);
+        LockedLetter x = Check.of(3);
         int[] lengths = {2, 3, 6};
         int[] most = {3, 1, 1};
         for (int what = 0; what < 3; what++) {
@@ -62,84 +47,84 @@ public final class FindsTest {
     private static void nothingKnown() {
         int[] due = {30, 456, 6850, 24972, 59374, 131856, 238050};
         for (int parts = 2; parts <= 8; parts++) {
-            LockedLetter x = of(parts);
+            LockedLetter x = Check.of(parts);
             CHECK.due("rows of " + parts, x.rows(), due[parts - 2]);
-            row("nothing done", x);
+            CHECK.row("nothing done", x);
             CHECK.due("shut once", x.shut(), 1);
         }
     }
 
     private static void creases() {
-        LockedLetter x = of(2);
+        LockedLetter x = Check.of(2);
         x.find(0, 0, 1);
         CHECK.due("two folds over, each with 6 endings", x.rows(), 12);
-        row("left over", x, 100);
+        CHECK.row("left over", x, 100);
         x.find(0, 0, 2);
         CHECK.due("two folds under", x.rows(), 12);
-        row("left under", x, 101);
+        CHECK.row("left under", x, 101);
         x.find(0, 0, 0);
         CHECK.due("not folded", x.rows(), 6);
-        row("none", x);
+        CHECK.row("none", x);
         x.find(0, 0, 3);
         CHECK.due("both by one row", x.rows(), 0);
-        row("none fits", x);
+        CHECK.row("none fits", x);
         x.find(0, 0, -1);
         CHECK.due("not known", x.rows(), 30);
     }
 
     private static void slits() {
-        LockedLetter x = of(2);
+        LockedLetter x = Check.of(2);
         x.find(1, 0, 1);
         // Flat: a alone. bA, aB, Ab, Ba: where a is the highest, both slits; else the slit of two.
         CHECK.due("a has slits", x.rows(), 2 * (1 + 2 + 1 + 1 + 2));
-        row("flat, slit", x, 1001);
+        CHECK.row("flat, slit", x, 1001);
         x.find(1, 1, 1);
         CHECK.due("both", x.rows(), 2 * 4);
-        row("folded, slit through", x, 100, 1002);
+        CHECK.row("folded, slit through", x, 100, 1002);
         x.find(1, 0, 0);
-        row("b alone", x, 1011);
+        CHECK.row("b alone", x, 1011);
         x.find(1, 1, 0);
         CHECK.due("none has", x.rows(), 10);
-        row("none", x);
+        CHECK.row("none", x);
     }
 
     private static void dirt() {
-        LockedLetter x = of(2);
+        LockedLetter x = Check.of(2);
         for (int face = 0; face < 4; face++) {
             x.find(2, face, 1);
         }
         CHECK.due("dirty all over", x.rows(), 3);
-        row("flat, soiled", x, 2000);
+        CHECK.row("flat, soiled", x, 2000);
         x.find(2, 0, 0);
         x.find(2, 2, 0);
         CHECK.due("dirty backs", x.rows(), 2 * 3);
-        row("texts inside", x, 100, 2000);
+        CHECK.row("texts inside", x, 100, 2000);
         x.find(2, 0, 1);
         CHECK.due("one text", x.rows(), 0);
         x.find(2, 1, 0);
         x.find(2, 3, 0);
         x.find(2, 2, 1);
         CHECK.due("dirty texts", x.rows(), 2 * 3);
-        row("texts outside", x, 101, 2000);
+        CHECK.row("texts outside", x, 101, 2000);
         for (int face = 0; face < 4; face++) {
             x.find(2, face, 0);
         }
         CHECK.due("clean", x.rows(), 15);
-        row("nothing", x);
+        CHECK.row("nothing", x);
     }
 
     private static void orderOfRows() {
-        LockedLetter x = of(4);
+        LockedLetter x = Check.of(4);
         x.find(0, 1, 1);
-        row("the first line that does it", x, 200);
+        CHECK.row("the first line that does it", x, 200);
         x.find(0, 2, 2);
-        row("two turns", x, 200, 101);
+        CHECK.row("two turns", x, 200, 101);
         x.find(0, 0, 0);
-        row("two turns without the first crease", x, 301, 101);
+        CHECK.row("two turns without the first crease", x, 301, 101);
     }
 
     private static void tucksInRows() {
-        LockedLetter x = of(4);
+        LockedLetter x = Check.of(4);
         x.fold(1, false, true);
         x.fold(2, true, true);
         x.tuck(1, false, 2);
@@ -147,8 +132,8 @@ public final class FindsTest {
         x.soil();
         x.finds();
         CHECK.due("rows with a tuck", x.rows(), 2);
-        row("a tuck to the right at level 2", x, 100, 101, 113, 1002, 2000);
-        LockedLetter y = of(3);
+        CHECK.row("a tuck to the right at level 2", x, 100, 101, 113, 1002, 2000);
+        LockedLetter y = Check.of(3);
         for (int i = 0; i < 2; i++) {
             y.find(0, i, 1);
         }
@@ -157,7 +142,7 @@ public final class FindsTest {
     }
 
     private static void marksOfTheSheet() {
-        LockedLetter x = of(5);
+        LockedLetter x = Check.of(5);
         x.fold(4, false, true);
         x.tuck(2, true, 1);
         x.slit(1, 2);
@@ -168,22 +153,22 @@ public final class FindsTest {
         CHECK.due("and spoils it", x.rows(), 0);
         x.finds();
         CHECK.due("as before", x.shut(), 1);
-        LockedLetter y = of(3);
+        LockedLetter y = Check.of(3);
         y.finds();
         CHECK.due("a clean flat sheet", y.rows(), 1);
-        row("nothing was done", y);
+        CHECK.row("nothing was done", y);
         y.fold(1, true, true);
         CHECK.due("finds do not follow the sheet", y.rows(), 1);
         y.seal(0);
         y.finds();
         CHECK.due("wax is no find", y.rows(), 2);
-        row("one fold", y, 100);
+        CHECK.row("one fold", y, 100);
         y.sheet(3);
         CHECK.due("a new sheet has no finds", y.rows(), 456);
     }
 
     private static void shutTwice() {
-        LockedLetter x = of(3);
+        LockedLetter x = Check.of(3);
         x.find(0, 0, 3);
         x.find(0, 1, 0);
         CHECK.due("over once, under once", x.shut(), 2);
@@ -193,7 +178,7 @@ public final class FindsTest {
         CHECK.due("both, up", x.shut(), 2);
         x.find(0, 0, 1);
         CHECK.due("up, up", x.shut(), 1);
-        LockedLetter y = of(2);
+        LockedLetter y = Check.of(2);
         y.find(0, 0, 1);
         y.find(2, 0, 1);
         y.find(2, 1, 0);
@@ -206,7 +191,7 @@ public final class FindsTest {
     }
 
     private static void neither() {
-        LockedLetter x = of(5);
+        LockedLetter x = Check.of(5);
         int[] creases = {0, 2, 3, 0};
         for (int i = 0; i < 4; i++) {
             x.find(0, i, creases[i]);
@@ -221,7 +206,7 @@ public final class FindsTest {
         CHECK.due("twice, if the second is none", x.shut(), 2);
         x.find(0, 2, 2);
         CHECK.due("once", x.shut(), 1);
-        LockedLetter y = of(6);
+        LockedLetter y = Check.of(6);
         int[] others = {0, 0, 1, 3, 0};
         for (int i = 0; i < 5; i++) {
             y.find(0, i, others[i]);

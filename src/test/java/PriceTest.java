@@ -154,46 +154,40 @@ public final class PriceTest {
         CHECK.due("alike when held to 0", x.by(0), 0);
     }
 
-    private static void sights(String what, LockedLetter x, int... due) {
-        for (int p = 0; p < due.length; p++) {
-            CHECK.due(what + ": part(" + p + ", 5)", x.part(p, 5), due[p]);
-        }
-    }
-
     private static void reading() {
         LockedLetter x = new LockedLetter();
-        sights("flat", x, 1, 1, 1, 1);
+        CHECK.sights("flat", x, 1, 1, 1, 1);
         x.fold(2, true, true);
-        sights("shut: cB dA", x, 0, 0, 0, 0);
+        CHECK.sights("shut: cB dA", x, 0, 0, 0, 0);
         x.undo();
         x.fold(2, true, false);
-        sights("texts outside: Bc Ad", x, 1, 1, 1, 1);
+        CHECK.sights("texts outside: Bc Ad", x, 1, 1, 1, 1);
         x.undo();
         x.fold(1, true, true);
-        sights("bA c d", x, 0, 0, 1, 1);
+        CHECK.sights("bA c d", x, 0, 0, 1, 1);
         x.undo();
         x.fold(1, false, true);
-        sights("D C aB", x, 0, 0, 1, 1);
+        CHECK.sights("D C aB", x, 0, 0, 1, 1);
     }
 
     private static void peeping() {
         LockedLetter x = new LockedLetter();
         x.sheet(2);
         x.fold(1, true, true);
-        sights("bA without a rule", x, 0, 0);
+        CHECK.sights("bA without a rule", x, 0, 0);
         Check.read(x, "peep 3;");
-        sights("bA gapes on the right", x, 2, 2);
+        CHECK.sights("bA gapes on the right", x, 2, 2);
         CHECK.due("ease by peeping or undoing", x.ease(0), 0);
         CHECK.due("undone", x.undone(0), 1);
         Check.read(x, "peep 3 if number == 1;");
-        sights("a rule for one part", x, 0, 2);
+        CHECK.sights("a rule for one part", x, 0, 2);
         Check.read(x, "peep 3;");
         x.undo();
         x.fold(1, false, true);
-        sights("aB gapes on the left", x, 2, 2);
+        CHECK.sights("aB gapes on the left", x, 2, 2);
         x.undo();
         x.fold(1, true, false);
-        sights("texts outside", x, 1, 1);
+        CHECK.sights("texts outside", x, 1, 1);
     }
 
     private static void peepsThatAreShut() {
@@ -202,28 +196,28 @@ public final class PriceTest {
         Check.read(x, "peep 3;");
         x.fold(1, true, true);
         x.slit(0, 2);
-        sights("slits bind nothing", x, 2, 2);
+        CHECK.sights("slits bind nothing", x, 2, 2);
         x.lock(0, 2);
-        sights("a strip binds both", x, 0, 0);
+        CHECK.sights("a strip binds both", x, 0, 0);
         x.undo();
-        sights("the strip is undone", x, 2, 2);
+        CHECK.sights("the strip is undone", x, 2, 2);
         x.seal(0);
-        sights("wax binds both", x, 0, 0);
+        CHECK.sights("wax binds both", x, 0, 0);
         x.undo();
-        sights("the wax is undone, its mark stays", x, 2, 2);
+        CHECK.sights("the wax is undone, its mark stays", x, 2, 2);
         LockedLetter y = new LockedLetter();
         y.sheet(3);
         Check.read(y, "peep 3;");
         y.fold(1, true, true);
         y.fold(1, false, true);
         // bAC: on the left a and b hang together, on the right b and c, with a between; c looks at a.
-        sights("bAC", y, 0, 0, 2);
+        CHECK.sights("bAC", y, 0, 0, 2);
         y.undo();
         y.tuck(1, false, 1);
         // bCA: b looks at c: on the left within a and b, on the right at the ends of b and c; a looks at c.
-        sights("bCA", y, 2, 0, 0);
+        CHECK.sights("bCA", y, 2, 0, 0);
         y.seal(0);
-        sights("bCA sealed above", y, 0, 0, 0);
+        CHECK.sights("bCA sealed above", y, 0, 0, 0);
     }
 
     private static void peepsAtBothSides() {
@@ -231,17 +225,17 @@ public final class PriceTest {
         Check.read(x, "peep 5;");
         x.fold(2, true, true);
         // cB dA: the crease of b and c is on the left of column 0; d and a gape on the right.
-        sights("cB dA", x, 2, 0, 0, 2);
+        CHECK.sights("cB dA", x, 2, 0, 0, 2);
         x.undo();
         x.fold(2, false, true);
         // aD bC
-        sights("aD bC", x, 2, 0, 0, 2);
+        CHECK.sights("aD bC", x, 2, 0, 0, 2);
         LockedLetter y = new LockedLetter();
         y.sheet(6);
         Check.read(y, "peep 5;");
         y.fold(3, true, true);
         // dC eB fA: the middle column has no open side.
-        sights("dC eB fA", y, 2, 0, 0, 0, 0, 2);
+        CHECK.sights("dC eB fA", y, 2, 0, 0, 0, 0, 2);
     }
 
     private static void varsOfPeeps() {
@@ -258,11 +252,11 @@ public final class PriceTest {
         x.seal(0);
         // a bC: b and c gape on the left, but column 1 is not column 0; on the right is their crease.
         Check.read(x, "peep 1;");
-        sights("a bC", x, 1, 0, 0);
+        CHECK.sights("a bC", x, 1, 0, 0);
         x.sheet(3);
         x.fold(2, true, true);
         // cB A
-        sights("cB A", x, 1, 0, 0);
+        CHECK.sights("cB A", x, 1, 0, 0);
         x.sheet(4);
         x.fold(2, true, true);
         x.soil();

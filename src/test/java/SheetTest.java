@@ -20,37 +20,6 @@ public final class SheetTest {
         CHECK.end();
     }
 
-    /** A packet told as piles from the lowest LAYER on: a small letter for UP, a capital one for DOWN. */
-    private static void packet(String what, LockedLetter x, String... piles) {
-        CHECK.due(what + ": columns", x.count(1), piles.length);
-        for (int c = 0; c < piles.length; c++) {
-            CHECK.due(what + ": layers(" + c + ")", x.layers(c), piles[c].length());
-            for (int l = 0; l < piles[c].length(); l++) {
-                char sign = piles[c].charAt(l);
-                int part = Character.toLowerCase(sign) - 'a';
-                CHECK.due(what + ": at(" + c + ", " + l + ")", x.at(c, l), part);
-                CHECK.due(what + ": part(" + part + ", 0)", x.part(part, 0), c);
-                CHECK.due(what + ": part(" + part + ", 1)", x.part(part, 1), l);
-                CHECK.due(what + ": part(" + part + ", 2)", x.part(part, 2), Character.isLowerCase(sign) ? 1 : 0);
-            }
-            CHECK.due(what + ": at above", x.at(c, piles[c].length()), -1);
-        }
-        CHECK.due(what + ": no more columns", x.layers(piles.length), -1);
-    }
-
-    private static void marks(String what, LockedLetter x, int... marks) {
-        for (int i = 0; i < marks.length; i++) {
-            CHECK.due(what + ": mark(" + i + ")", x.mark(i), marks[i]);
-        }
-        CHECK.due(what + ": no more marks", x.mark(marks.length), -1);
-    }
-
-    private static LockedLetter of(int parts) {
-        LockedLetter x = new LockedLetter();
-        CHECK.due("sheet(" + parts + ")", x.sheet(parts), true);
-        return x;
-    }
-
     private static void sheets() {
         LockedLetter x = new LockedLetter();
         for (int parts : new int[] {Integer.MIN_VALUE, -1, 0, 1, 9, Integer.MAX_VALUE}) {
@@ -62,7 +31,7 @@ public final class SheetTest {
         }
         for (int parts = 2; parts <= 8; parts++) {
             CHECK.due("sheet(" + parts + ")", x.sheet(parts), true);
-            packet("flat", x, "abcdefgh".substring(0, parts).split(""));
+            CHECK.packet("flat", x, "abcdefgh".substring(0, parts).split(""));
             CHECK.due("count(0)", x.count(0), parts);
         }
         x.hand(3);
@@ -73,7 +42,7 @@ public final class SheetTest {
         x.soil();
         x.finds();
         CHECK.due("sheet(8) anew", x.sheet(8), true);
-        marks("new sheet", x, 0, 0, 0, 0, 0, 0, 0);
+        CHECK.marks("new sheet", x, 0, 0, 0, 0, 0, 0, 0);
         for (int p = 0; p < 8; p++) {
             CHECK.due("no slits", x.part(p, 3), 0);
             CHECK.due("no wax", x.part(p, 4), 0);
@@ -86,116 +55,116 @@ public final class SheetTest {
     }
 
     private static void folds() {
-        LockedLetter x = of(4);
+        LockedLetter x = Check.of(4);
         CHECK.due("left over", x.fold(2, true, true), 0);
-        packet("left over", x, "cB", "dA");
+        CHECK.packet("left over", x, "cB", "dA");
         x.undo();
         CHECK.due("left under", x.fold(2, true, false), 0);
-        packet("left under", x, "Bc", "Ad");
+        CHECK.packet("left under", x, "Bc", "Ad");
         x.undo();
         CHECK.due("right over", x.fold(2, false, true), 0);
-        packet("right over", x, "aD", "bC");
+        CHECK.packet("right over", x, "aD", "bC");
         x.undo();
         CHECK.due("right under", x.fold(2, false, false), 0);
-        packet("right under", x, "Da", "Cb");
+        CHECK.packet("right under", x, "Da", "Cb");
         CHECK.due("a pile is turned upside down", x.fold(1, true, true), 1);
-        packet("piles", x, "CbAd");
+        CHECK.packet("piles", x, "CbAd");
         CHECK.due("one column has no line", x.fold(1, true, true), -1);
     }
 
     private static void foldsBeyondTheEdge() {
-        LockedLetter x = of(4);
+        LockedLetter x = Check.of(4);
         x.fold(1, false, true);
-        packet("right over, beyond", x, "D", "C", "aB");
+        CHECK.packet("right over, beyond", x, "D", "C", "aB");
         x.undo();
         x.fold(3, true, false);
-        packet("left under, beyond", x, "Cd", "B", "A");
+        CHECK.packet("left under, beyond", x, "Cd", "B", "A");
         x.undo();
         x.fold(1, true, true);
-        packet("left over, within", x, "bA", "c", "d");
+        CHECK.packet("left over, within", x, "bA", "c", "d");
         x.undo();
         x.fold(3, false, false);
-        packet("right under, within", x, "a", "b", "Dc");
+        CHECK.packet("right under, within", x, "a", "b", "Dc");
     }
 
     private static void marksOfFolds() {
-        LockedLetter x = of(4);
+        LockedLetter x = Check.of(4);
         x.fold(2, true, true);
-        marks("up laid over", x, 0, 1, 0);
+        CHECK.marks("up laid over", x, 0, 1, 0);
         x.fold(1, true, true);
-        packet("second", x, "dAbC");
-        marks("down laid over, up laid over", x, 2, 1, 1);
+        CHECK.packet("second", x, "dAbC");
+        CHECK.marks("down laid over, up laid over", x, 2, 1, 1);
         x.undo();
         x.fold(1, false, false);
-        marks("down laid under: up; up laid under: down", x, 3, 1, 3);
+        CHECK.marks("down laid under: up; up laid under: down", x, 3, 1, 3);
         x.undo();
         x.undo();
-        marks("marks stay", x, 3, 1, 3);
+        CHECK.marks("marks stay", x, 3, 1, 3);
         x.fold(2, false, false);
-        marks("both", x, 3, 3, 3);
+        CHECK.marks("both", x, 3, 3, 3);
     }
 
     private static void tucks() {
-        LockedLetter x = of(3);
+        LockedLetter x = Check.of(3);
         x.fold(2, false, true);
-        packet("ready", x, "a", "bC");
+        CHECK.packet("ready", x, "a", "bC");
         CHECK.due("tuck between", x.tuck(1, true, 1), 1);
-        packet("between", x, "bAC");
-        marks("level 1 is as over", x, 1, 1);
+        CHECK.packet("between", x, "bAC");
+        CHECK.marks("level 1 is as over", x, 1, 1);
         x.undo();
         CHECK.due("tuck below all", x.tuck(1, true, 0), 1);
-        packet("below all", x, "AbC");
-        marks("level 0 is as under", x, 3, 1);
+        CHECK.packet("below all", x, "AbC");
+        CHECK.marks("level 0 is as under", x, 3, 1);
         x.undo();
         CHECK.due("tuck above all", x.tuck(1, true, 2), 1);
-        packet("above all", x, "bCA");
+        CHECK.packet("above all", x, "bCA");
         x.undo();
         CHECK.due("tuck at level 8", x.tuck(1, true, 8), 1);
-        packet("fewer layers: all stay below", x, "bCA");
+        CHECK.packet("fewer layers: all stay below", x, "bCA");
         x.undo();
         CHECK.due("tuck at level 9", x.tuck(1, true, 9), -1);
         CHECK.due("tuck at level -1", x.tuck(1, true, -1), -1);
         CHECK.due("no acts by these", x.count(2), 1);
         CHECK.due("tuck at line 0", x.tuck(0, true, 1), -1);
         CHECK.due("tuck at line 2", x.tuck(2, true, 1), -1);
-        LockedLetter y = of(5);
+        LockedLetter y = Check.of(5);
         y.fold(4, false, true);
-        packet("one pile of two", y, "a", "b", "c", "dE");
+        CHECK.packet("one pile of two", y, "a", "b", "c", "dE");
         CHECK.due("over a low pile, into a high one", y.tuck(2, true, 1), 1);
-        packet("each pile at its own level", y, "cB", "dAE");
+        CHECK.packet("each pile at its own level", y, "cB", "dAE");
     }
 
     private static void tucksThatCannotBe() {
-        LockedLetter x = of(4);
+        LockedLetter x = Check.of(4);
         x.fold(2, true, true);
         CHECK.due("two creases cross", x.tuck(1, false, 1), -2);
-        packet("nothing happens", x, "cB", "dA");
-        marks("no marks", x, 0, 1, 0);
+        CHECK.packet("nothing happens", x, "cB", "dA");
+        CHECK.marks("no marks", x, 0, 1, 0);
         CHECK.due("no act", x.count(2), 1);
         CHECK.due("above both", x.tuck(1, false, 2), 1);
-        LockedLetter y = of(4);
+        LockedLetter y = Check.of(4);
         y.fold(1, true, true);
-        packet("shut on the left", y, "bA", "c", "d");
+        CHECK.packet("shut on the left", y, "bA", "c", "d");
         CHECK.due("a flat part through a crease", y.tuck(1, false, 1), -2);
         CHECK.due("above it", y.tuck(1, false, 2), 1);
-        packet("above it", y, "D", "bAC");
-        LockedLetter w = of(3);
+        CHECK.packet("above it", y, "D", "bAC");
+        LockedLetter w = Check.of(3);
         w.fold(1, true, true);
         CHECK.due("nothing goes on beyond the crease", w.tuck(1, false, 1), 1);
-        packet("laid in", w, "bCA");
-        LockedLetter z = of(5);
+        CHECK.packet("laid in", w, "bCA");
+        LockedLetter z = Check.of(5);
         z.fold(4, false, false);
-        packet("ready", z, "a", "b", "c", "Ed");
+        CHECK.packet("ready", z, "a", "b", "c", "Ed");
         CHECK.due("one order here, the other there", z.tuck(2, true, 1), -2);
         CHECK.due("below both", z.tuck(2, true, 0), 1);
-        packet("below both", z, "Bc", "AEd");
+        CHECK.packet("below both", z, "Bc", "AEd");
         z.undo();
         CHECK.due("above both", z.tuck(2, true, 2), 1);
-        packet("above both", z, "cB", "EdA");
+        CHECK.packet("above both", z, "cB", "EdA");
     }
 
     private static void slits() {
-        LockedLetter x = of(4);
+        LockedLetter x = Check.of(4);
         CHECK.due("slit a flat part", x.slit(3, 1), 0);
         CHECK.due("its slit", x.part(3, 3), 1);
         CHECK.due("too many", x.slit(3, 2), -1);
@@ -213,11 +182,11 @@ public final class SheetTest {
         CHECK.due("no such column", x.slit(2, 1), -1);
         CHECK.due("no column below 0", x.slit(-1, 1), -1);
         CHECK.due("acts", x.count(2), 4);
-        packet("slits move nothing", x, "cB", "dA");
+        CHECK.packet("slits move nothing", x, "cB", "dA");
     }
 
     private static void locks() {
-        LockedLetter x = of(4);
+        LockedLetter x = Check.of(4);
         CHECK.due("lock one layer", x.lock(0, 1), -1);
         CHECK.due("lock two of one", x.lock(0, 2), -1);
         x.fold(2, true, true);
@@ -233,15 +202,15 @@ public final class SheetTest {
         x.undo();
         x.undo();
         CHECK.due("slits stay, so that it can be locked", x.lock(0, 2), 2);
-        packet("locks move nothing", x, "cB", "dA");
+        CHECK.packet("locks move nothing", x, "cB", "dA");
     }
 
     private static void seals() {
-        LockedLetter x = of(4);
+        LockedLetter x = Check.of(4);
         CHECK.due("one layer", x.seal(0), -1);
         x.fold(2, true, true);
         x.fold(1, true, true);
-        packet("four", x, "dAbC");
+        CHECK.packet("four", x, "dAbC");
         CHECK.due("sealed", x.seal(0), 2);
         CHECK.due("sealed again", x.seal(0), 3);
         CHECK.due("wax of the highest", x.part(2, 4), 2);
@@ -253,56 +222,50 @@ public final class SheetTest {
         CHECK.due("wax stays", x.part(2, 4), 2);
     }
 
-    private static void dirt(String what, LockedLetter x, int... faces) {
-        for (int face = 0; face < faces.length; face++) {
-            CHECK.due(what + ": face " + face, x.part(face / 2, 6 + face % 2), faces[face]);
-        }
-    }
-
     private static void soils() {
-        LockedLetter x = of(3);
+        LockedLetter x = Check.of(3);
         x.fold(2, true, false);
-        packet("ready", x, "Bc", "A");
+        CHECK.packet("ready", x, "Bc", "A");
         CHECK.due("soil", x.soil(), 1);
-        dirt("outer faces", x, 1, 1, 1, 0, 1, 0);
+        CHECK.dirt("outer faces", x, 1, 1, 1, 0, 1, 0);
         CHECK.due("soil again", x.soil(), 2);
-        dirt("dirt is there or not", x, 1, 1, 1, 0, 1, 0);
+        CHECK.dirt("dirt is there or not", x, 1, 1, 1, 0, 1, 0);
         x.undo();
         x.undo();
         x.undo();
-        dirt("dirt stays", x, 1, 1, 1, 0, 1, 0);
-        LockedLetter y = of(3);
+        CHECK.dirt("dirt stays", x, 1, 1, 1, 0, 1, 0);
+        LockedLetter y = Check.of(3);
         y.fold(1, true, true);
         y.fold(1, false, true);
-        packet("three", y, "bAC");
+        CHECK.packet("three", y, "bAC");
         y.soil();
-        dirt("highest down, lowest up", y, 0, 0, 0, 1, 0, 1);
-        LockedLetter z = of(2);
+        CHECK.dirt("highest down, lowest up", y, 0, 0, 0, 1, 0, 1);
+        LockedLetter z = Check.of(2);
         z.soil();
-        dirt("flat", z, 1, 1, 1, 1);
+        CHECK.dirt("flat", z, 1, 1, 1, 1);
     }
 
     private static void undoing() {
-        LockedLetter x = of(4);
+        LockedLetter x = Check.of(4);
         x.fold(2, true, true);
         x.slit(0, 2);
         x.lock(0, 2);
         x.tuck(1, false, 2);
-        packet("tucked", x, "cBaD");
+        CHECK.packet("tucked", x, "cBaD");
         CHECK.due("undo the tuck", x.undo(), 0);
-        packet("as ahead of it", x, "cB", "dA");
-        marks("marks stay", x, 2, 1, 1);
+        CHECK.packet("as ahead of it", x, "cB", "dA");
+        CHECK.marks("marks stay", x, 2, 1, 1);
         CHECK.due("undo the lock", x.undo(), 10);
         CHECK.due("undo the slit", x.undo(), 0);
         CHECK.due("slits stay", x.part(1, 3), 1);
         CHECK.due("undo the fold", x.undo(), 0);
-        packet("flat", x, "a", "b", "c", "d");
+        CHECK.packet("flat", x, "a", "b", "c", "d");
         CHECK.due("nothing to undo", x.undo(), -1);
         CHECK.due("another act has the number", x.soil(), 0);
     }
 
     private static void sixteenActs() {
-        LockedLetter x = of(4);
+        LockedLetter x = Check.of(4);
         x.fold(2, true, true);
         x.slit(0, 2);
         for (int i = 2; i < 16; i++) {
@@ -325,7 +288,7 @@ public final class SheetTest {
     }
 
     private static void wrongInputs() {
-        LockedLetter x = of(5);
+        LockedLetter x = Check.of(5);
         int[] odd = {Integer.MIN_VALUE, -2, -1, 5, 6, 100, Integer.MAX_VALUE};
         for (int i : odd) {
             CHECK.due("fold(" + i + ")", x.fold(i, true, true), -1);
@@ -354,7 +317,7 @@ public final class SheetTest {
     }
 
     private static void counts() {
-        LockedLetter x = of(6);
+        LockedLetter x = Check.of(6);
         x.fold(2, true, true);
         x.slit(0, 2);
         x.lock(0, 2);

@@ -113,101 +113,95 @@ public final class TapeTest {
         CHECK.due("place", x.place(), place);
     }
 
-    private static void fault(String text, int fault, int place) {
-        LockedLetter x = new LockedLetter();
-        CHECK.due("read of '" + text + "'", Check.read(x, text), fault);
-        CHECK.due("place in '" + text + "'", x.place(), place);
-    }
-
     private static void goodTexts() {
         String[] good = {
             "", " \t\r\n ", "harm 5;", "harm5;", "\tharm\n5\r;", "harm 0000;cut 9999;", "harm kind+layers-column*number+below;",
             "trick 1 if kind==1;", "peep 1 if kind!=1and 1<2or 2<=3;", "opens 1*(2+3);doubt(1);", "harm ((((((1))))));",
             "harm ((((((1))))))+((((((1))))));", "harm 1 if (1)==(2)*3 and 1<2 or 3!=4 and 5<=6;", "harm 1 if 1<2;"};
         for (String text : good) {
-            fault(text, 0, -1);
+            CHECK.fault(text, 0, -1);
         }
     }
 
     private static void syntax() {
-        fault("harm 5", 1, 6);
-        fault("harm 5  ", 1, 8);
-        fault("harm", 1, 4);
-        fault("harm;", 1, 4);
-        fault("harms 5;", 1, 0);
-        fault(" Harm 5;", 1, 1);
-        fault("har m 5;", 1, 0);
-        fault("if 1;", 1, 0);
-        fault("5;", 1, 0);
-        fault(";", 1, 0);
-        fault("harm 12345;", 1, 5);
-        fault("harm 1 2;", 1, 7);
-        fault("harm 12 kind;", 1, 8);
-        fault("harm 12kind;", 1, 7);
-        fault("harm kindkind;", 1, 5);
-        fault("harm abcdefghi;", 1, 5);
-        fault("harm rule;", 1, 5);
-        fault("harm -1;", 1, 5);
-        fault("harm 1+;", 1, 7);
-        fault("harm 1++1;", 1, 7);
-        fault("harm (1;", 1, 7);
-        fault("harm 1);", 1, 6);
-        fault("harm ();", 1, 6);
-        fault("harm 1;;", 1, 7);
-        fault("harm 1 or 2;", 1, 7);
-        fault("harm 1 == 2;", 1, 7);
-        fault("harm 1 if;", 1, 9);
-        fault("harm 1 if 1;", 1, 11);
-        fault("harm 1 if 1 and 2;", 1, 12);
-        fault("harm 1 if 1 == ;", 1, 15);
-        fault("harm 1 if (1 == 1);", 1, 13);
-        fault("harm 1 if 1 == 1 == 1;", 1, 17);
-        fault("harm 1 if 1 == 1 and;", 1, 20);
-        fault("harm 1 if 1 == 1 if 1 == 1;", 1, 17);
-        fault("harm 1 if 1 == 1)", 1, 16);
-        fault("harm 1 if kind = 1;", 1, 15);
-        fault("harm 1 if kind ! = 1;", 1, 15);
-        fault("harm 1 if kind < = 1;", 1, 17);
-        fault("harm 1 if kind === 1;", 1, 17);
-        fault("harm 1 if kind > 1;", 1, 15);
-        fault("harm 1 if kind =", 1, 15);
-        fault("harm 1 if kind !", 1, 15);
-        fault("harm 1 if kind <", 1, 16);
-        fault("harm\f1;", 1, 4);
-        fault("harm\u000b1;", 1, 4);
-        fault("harm 1;\u0000", 1, 7);
-        fault("harm \u00e9;", 1, 5);
-        fault("harm 1;\u00ff", 1, 7);
-        fault("cut 1; harm 1 / 2;", 1, 14);
-        fault("farm 1;", 1, 0);
-        fault("harmz 1;", 1, 0);
-        fault("harma 1;", 1, 0);
-        fault("harm rumber;", 1, 5);
+        CHECK.fault("harm 5", 1, 6);
+        CHECK.fault("harm 5  ", 1, 8);
+        CHECK.fault("harm", 1, 4);
+        CHECK.fault("harm;", 1, 4);
+        CHECK.fault("harms 5;", 1, 0);
+        CHECK.fault(" Harm 5;", 1, 1);
+        CHECK.fault("har m 5;", 1, 0);
+        CHECK.fault("if 1;", 1, 0);
+        CHECK.fault("5;", 1, 0);
+        CHECK.fault(";", 1, 0);
+        CHECK.fault("harm 12345;", 1, 5);
+        CHECK.fault("harm 1 2;", 1, 7);
+        CHECK.fault("harm 12 kind;", 1, 8);
+        CHECK.fault("harm 12kind;", 1, 7);
+        CHECK.fault("harm kindkind;", 1, 5);
+        CHECK.fault("harm abcdefghi;", 1, 5);
+        CHECK.fault("harm rule;", 1, 5);
+        CHECK.fault("harm -1;", 1, 5);
+        CHECK.fault("harm 1+;", 1, 7);
+        CHECK.fault("harm 1++1;", 1, 7);
+        CHECK.fault("harm (1;", 1, 7);
+        CHECK.fault("harm 1);", 1, 6);
+        CHECK.fault("harm ();", 1, 6);
+        CHECK.fault("harm 1;;", 1, 7);
+        CHECK.fault("harm 1 or 2;", 1, 7);
+        CHECK.fault("harm 1 == 2;", 1, 7);
+        CHECK.fault("harm 1 if;", 1, 9);
+        CHECK.fault("harm 1 if 1;", 1, 11);
+        CHECK.fault("harm 1 if 1 and 2;", 1, 12);
+        CHECK.fault("harm 1 if 1 == ;", 1, 15);
+        CHECK.fault("harm 1 if (1 == 1);", 1, 13);
+        CHECK.fault("harm 1 if 1 == 1 == 1;", 1, 17);
+        CHECK.fault("harm 1 if 1 == 1 and;", 1, 20);
+        CHECK.fault("harm 1 if 1 == 1 if 1 == 1;", 1, 17);
+        CHECK.fault("harm 1 if 1 == 1)", 1, 16);
+        CHECK.fault("harm 1 if kind = 1;", 1, 15);
+        CHECK.fault("harm 1 if kind ! = 1;", 1, 15);
+        CHECK.fault("harm 1 if kind < = 1;", 1, 17);
+        CHECK.fault("harm 1 if kind === 1;", 1, 17);
+        CHECK.fault("harm 1 if kind > 1;", 1, 15);
+        CHECK.fault("harm 1 if kind =", 1, 15);
+        CHECK.fault("harm 1 if kind !", 1, 15);
+        CHECK.fault("harm 1 if kind <", 1, 16);
+        CHECK.fault("harm\f1;", 1, 4);
+        CHECK.fault("harm\u000b1;", 1, 4);
+        CHECK.fault("harm 1;\u0000", 1, 7);
+        CHECK.fault("harm \u00e9;", 1, 5);
+        CHECK.fault("harm 1;\u00ff", 1, 7);
+        CHECK.fault("cut 1; harm 1 / 2;", 1, 14);
+        CHECK.fault("farm 1;", 1, 0);
+        CHECK.fault("harmz 1;", 1, 0);
+        CHECK.fault("harma 1;", 1, 0);
+        CHECK.fault("harm rumber;", 1, 5);
     }
 
     private static void tooMany() {
-        fault("harm (((((((1)))))));", 2, 11);
-        fault("harm 1+((((((1+(2)))))));", 2, 15);
-        fault("harm ((((((1(", 1, 12);
+        CHECK.fault("harm (((((((1)))))));", 2, 11);
+        CHECK.fault("harm 1+((((((1+(2)))))));", 2, 15);
+        CHECK.fault("harm ((((((1(", 1, 12);
         String sixteen = "cut 1;".repeat(16);
-        fault(sixteen, 0, -1);
-        fault(sixteen + "  ", 0, -1);
-        fault(sixteen + " cut 1;", 2, 97);
-        fault(sixteen + "cut", 2, 96);
-        fault(sixteen + "cuts 1;", 1, 96);
-        fault(sixteen + "kind", 1, 96);
+        CHECK.fault(sixteen, 0, -1);
+        CHECK.fault(sixteen + "  ", 0, -1);
+        CHECK.fault(sixteen + " cut 1;", 2, 97);
+        CHECK.fault(sixteen + "cut", 2, 96);
+        CHECK.fault(sixteen + "cuts 1;", 1, 96);
+        CHECK.fault(sixteen + "kind", 1, 96);
         // 3 and 397 TOKENS, and one more.
         String full = "cut 1;harm 1" + "+1".repeat(197) + ";";
-        fault(full, 0, -1);
-        fault(full + "\n ", 0, -1);
-        fault(full + " cut 1;", 2, full.length() + 1);
-        fault(full + "+", 1, full.length());
-        fault(full + "#", 1, full.length());
-        fault(full + "cutcutcut", 1, full.length());
+        CHECK.fault(full, 0, -1);
+        CHECK.fault(full + "\n ", 0, -1);
+        CHECK.fault(full + " cut 1;", 2, full.length() + 1);
+        CHECK.fault(full + "+", 1, full.length());
+        CHECK.fault(full + "#", 1, full.length());
+        CHECK.fault(full + "cutcutcut", 1, full.length());
         String open = "harm 1" + "+1".repeat(199);
-        fault(open, 1, open.length());
-        fault(open + ";", 2, open.length());
-        fault(open + ")", 1, open.length());
-        fault(open + "1", 1, open.length() + 1);
+        CHECK.fault(open, 1, open.length());
+        CHECK.fault(open + ";", 2, open.length());
+        CHECK.fault(open + ")", 1, open.length());
+        CHECK.fault(open + "1", 1, open.length() + 1);
     }
 }

@@ -75,25 +75,17 @@ public final class WayTest {
         CHECK.due("tales(-1)", x.tales(-1), -1);
     }
 
-    private static void told(String what, LockedLetter x, int n, String due) {
-        for (int day = 0; day < due.length(); day++) {
-            CHECK.due(what + ": told(" + day + ", " + n + ")", x.told(day, n), due.charAt(day) - '0');
-        }
-        CHECK.due(what + ": no more days", x.told(due.length(), n), -1);
-        CHECK.due(what + ": told(-1)", x.told(-1, n), -1);
-    }
-
     private static void usualCosts() {
         LockedLetter x = new LockedLetter();
         x.hand(3);
         x.hand(2);
         CHECK.due("nothing seen", x.tale(0), 0);
         CHECK.due("one tale", x.tales(0), 1);
-        told("whole", x, 0, "00000");
+        CHECK.told("whole", x, 0, "00000");
         x.look(1, 1);
         CHECK.due("a doubt, or an opening", x.tale(1), 10);
         CHECK.due("doubt, opened on day 0, on day 1", x.tales(1), 3);
-        told("whole comes first", x, 1, "00000");
+        CHECK.told("whole comes first", x, 1, "00000");
         CHECK.due("perhaps", x.opened(0, 1), 2);
         CHECK.due("never", x.opened(1, 1), 0);
         CHECK.due("not known yet", x.opened(0, 0), 0);
@@ -106,7 +98,7 @@ public final class WayTest {
         x.look(1, 1);
         CHECK.due("two looks: it was opened", x.tale(2), 10);
         CHECK.due("on day 0 or 1", x.tales(2), 2);
-        told("as late as can be", x, 2, "01111");
+        CHECK.told("as late as can be", x, 2, "01111");
         CHECK.due("for sure", x.opened(0, 2), 1);
         CHECK.due("never", x.opened(1, 2), 0);
         CHECK.due("the first look alone turns nothing", x.turned(0), 1);
@@ -124,7 +116,7 @@ public final class WayTest {
         x.look(1, 0);
         CHECK.due("opened on day 2", x.tale(2), 10);
         CHECK.due("one tale", x.tales(2), 1);
-        told("opened", x, 2, "0011");
+        CHECK.told("opened", x, 2, "0011");
         CHECK.due("by the second hand", x.opened(1, 2), 1);
         CHECK.due("not by the first", x.opened(0, 2), 0);
         CHECK.due("as known by 1: perhaps", x.opened(0, 1), 2);
@@ -138,14 +130,14 @@ public final class WayTest {
         Check.read(x, "doubt 1000;");
         x.look(0, 2);
         CHECK.due("it can't be shut again on day 0", x.tale(1), 1000);
-        told("so that is doubted", x, 1, "0000");
+        CHECK.told("so that is doubted", x, 1, "0000");
         x.look(3, 2);
         CHECK.due("opened and shut", x.tale(2), 1020);
         CHECK.due("on two of four days", x.tales(2), 6);
-        told("late", x, 2, "0012");
+        CHECK.told("late", x, 2, "0012");
         x.look(3, 0);
         CHECK.due("once whole, never again behind", x.tale(3), 2000);
-        told("whole", x, 3, "0000");
+        CHECK.told("whole", x, 3, "0000");
         LockedLetter y = new LockedLetter();
         y.hand(6);
         Check.read(y, "doubt 1000;");
@@ -154,7 +146,7 @@ public final class WayTest {
         y.look(4, 1);
         y.look(5, 2);
         CHECK.due("opened twice", y.tale(4), 40);
-        told("opened twice", y, 4, "012112");
+        CHECK.told("opened twice", y, 4, "012112");
         CHECK.due("two days, twice", y.tales(4), 4);
     }
 
@@ -168,11 +160,11 @@ public final class WayTest {
             + "opens 3 if kind == 7 and layers == 0 and column == 3 and number == 1 and below == 0;"
             + "opens 4 if kind == 8 and layers == 0 and column == 4 and number == 1 and below == 0;");
         CHECK.due("each var as due", x.tale(2), 7);
-        told("on these days", x, 2, "00012");
+        CHECK.told("on these days", x, 2, "00012");
         CHECK.due("one tale", x.tales(2), 1);
         Check.read(x, "doubt 500; opens 100*number+column if kind == 7; opens 50-column;");
         CHECK.due("the cheapest days", x.tale(2), 1 + 46);
-        told("by the first hand", x, 2, "01112");
+        CHECK.told("by the first hand", x, 2, "01112");
         CHECK.due("the first hand", x.opened(0, 2), 1);
         Check.read(x, "doubt 9999; opens 1-2;");
         CHECK.due("held", x.tale(2), 0);
@@ -190,7 +182,7 @@ public final class WayTest {
         CHECK.due("two ways a day", x.tales(1), 1L << 36);
         CHECK.due("all for nothing", x.tale(1), 0);
         CHECK.due("neither", x.opened(0, 1), 2);
-        told("the first of all", x, 1, "0".repeat(36));
+        CHECK.told("the first of all", x, 1, "0".repeat(36));
         Check.read(x, "opens 0;");
         CHECK.due("those that end shut again", x.tales(1) > Integer.MAX_VALUE, true);
     }
@@ -223,9 +215,9 @@ public final class WayTest {
         x.look(1, 1);
         x.look(3, 0);
         // whole, whole; 30 for the doubt or 10 + 30 for opening; then 60 or 40: 0011.
-        told("known by 3", x, 3, "0000");
-        told("known by 4", x, 4, "0011");
-        told("known by 5", x, 5, "0111");
+        CHECK.told("known by 3", x, 3, "0000");
+        CHECK.told("known by 4", x, 4, "0011");
+        CHECK.told("known by 5", x, 5, "0111");
         CHECK.due("from 0", x.turned(0), 3);
         CHECK.due("from 3", x.turned(3), 3);
         CHECK.due("from 4", x.turned(4), 4);
@@ -241,9 +233,9 @@ public final class WayTest {
         x.look(1, 1);
         x.look(1, 1);
         CHECK.due("opened", x.tale(2), 10);
-        told("two days", x, 2, "01");
+        CHECK.told("two days", x, 2, "01");
         x.hand(1);
-        told("a hand more, a day more", x, 2, "011");
+        CHECK.told("a hand more, a day more", x, 2, "011");
         Check.read(x, "doubt 1;");
         CHECK.due("another text", x.tale(2), 2);
         Check.read(x, "doubt");
