@@ -26,6 +26,7 @@ public final class FindsEdgesTest {
         rowsOfNone();
         fewestTurnsFirst();
         lesserNumbersFirst();
+        numbersOfActs();
         slitsByNumber();
         noSoilFirst();
         numbersOfRows();
@@ -137,8 +138,10 @@ public final class FindsEdgesTest {
         CHECK.due("none instead", x.rows(), 6);
         slits(x, 1, 0);
         CHECK.due("a alone has slits", x.rows(), 2);
+        CHECK.row("a alone", x, 1001);
         slits(x, 0, 0);
         CHECK.due("none has", x.rows(), 2);
+        CHECK.row("none has", x);
         dirt(x, 1, 1, 1, 1);
         CHECK.due("soiled", x.rows(), 1);
         dirt(x, 0, 0, 0, 0);
@@ -445,6 +448,31 @@ public final class FindsEdgesTest {
         CHECK.row("the first act counts more", y, 101, 100);
     }
 
+    private static void numbersOfActs() {
+        for (int line = 1; line < 8; line++) {
+            LockedLetter x = Check.of(8);
+            x.find(0, line - 1, 1);
+            CHECK.row("left over", x, 100 * line);
+            x.find(0, line - 1, 2);
+            CHECK.row("left under", x, 100 * line + 1);
+            for (int right = 0; right <= 1; right++) {
+                for (int under = 0; under <= 1; under++) {
+                    x.sheet(8);
+                    x.fold(line, right == 0, under == 0);
+                    // Which side was turned is told by the PART that lies highest at the crease, and is slit.
+                    x.slit(x.part(line, 0), 1);
+                    x.finds();
+                    CHECK.due("number of the fold", x.row(0), 100 * line + 10 * right + under);
+                    CHECK.due("number of the slit", x.row(1), 1001 + 10 * x.part(line, 0));
+                    CHECK.due("no more", x.row(2), -1);
+                }
+            }
+        }
+        LockedLetter y = Check.of(8);
+        creases(y, 0, 0, 0, 0, 0, 1, 1);
+        CHECK.row("the last line, and the one ahead of it", y, 700, 101);
+    }
+
     private static void slitsByNumber() {
         LockedLetter x = Check.of(4);
         creases(x, 0, 1, 0);
@@ -517,6 +545,11 @@ public final class FindsEdgesTest {
         CHECK.due("down", x.shut(), 1);
         creases(x, 3);
         CHECK.due("both", x.shut(), 2);
+        creases(x, 0);
+        slits(x, 0, 0);
+        dirt(x, 0, 0, 0, 0);
+        CHECK.due("one row alone fits", x.rows(), 1);
+        CHECK.due("which is once", x.shut(), 1);
         x.fold(1, true, true);
         x.undo();
         x.finds();
@@ -534,6 +567,14 @@ public final class FindsEdgesTest {
         CHECK.due("both on all four lines", x.shut(), 2);
         creases(x, 3, 0, 0, 0);
         CHECK.due("up, then down", x.shut(), 2);
+        creases(x, 1, 3, 3, 0);
+        CHECK.due("both rows crease the first line up", x.shut(), 2);
+        creases(x, 2, 3, 3, 0);
+        CHECK.due("both rows crease the first line down", x.shut(), 2);
+        creases(x, 0, 3, 3, 1);
+        CHECK.due("both rows crease the last line up", x.shut(), 2);
+        creases(x, 0, 3, 3, 2);
+        CHECK.due("both rows crease the last line down", x.shut(), 2);
         LockedLetter y = Check.of(8);
         creases(y, 1, 1, 1, 1, 1, 1, 0);
         CHECK.due("three and three", y.shut(), 2);
@@ -567,6 +608,17 @@ public final class FindsEdgesTest {
         CHECK.due("two would do", x.shut(), 2);
         creases(x, 0, 2, 0, 0);
         CHECK.due("one would do", x.shut(), 1);
+        creases(x, 3, 3, 3, 3);
+        CHECK.due("two would do", x.shut(), 2);
+        creases(x, 0, 2, 3, 0);
+        CHECK.due("three would be due, whatever was known before", x.shut(), 0);
+        LockedLetter y = Check.of(8);
+        creases(y, 3, 3, 3, 3, 3, 3, 3);
+        CHECK.due("eight parts folded to one pile, over and under", y.shut(), 2);
+        y.sheet(5);
+        creases(y, 0, 2, 3, 0);
+        CHECK.due("a smaller sheet", y.shut(), 0);
+        CHECK.due("a smaller sheet", y.rows(), 0);
         creases(x, -1, 2, 3, 0);
         CHECK.due("an end not known", x.shut(), 2);
     }

@@ -7,6 +7,10 @@ public final class ModelTest {
     private static final String[] ODD = {
         "=", "!", ">", "if", "or", "and", "(", ")", ";", "12345", "harmharmh", "0", "kind", "harm", "\u00e9", "==", "<=", "<", "+", "-", "Kind", "#", "\f", "k1", "peepx"};
 
+    private static final int[] EDGES = {
+        Integer.MIN_VALUE, Integer.MIN_VALUE + 1, -2, -1, 0, 1, 2, 3, 4, 5, 6, 7, 8, 9, 15, 16, 17, 31, 32, 33, 35, 36, 37, 39, 40, 41,
+        Integer.MAX_VALUE - 1, Integer.MAX_VALUE};
+
     private final Check check = new Check("ModelTest");
     private final Random random;
     private LockedLetter letter;
@@ -18,7 +22,7 @@ public final class ModelTest {
     }
 
     public static void main(String[] args) {
-        int runs = args.length > 0 ? Integer.parseInt(args[0]) : 600;
+        int runs = args.length > 0 ? Integer.parseInt(args[0]) : 700;
         long seed = args.length > 1 ? Long.parseLong(args[1]) : 20261118;
         ModelTest test = new ModelTest(seed);
         for (int i = 0; i < runs; i++) {
@@ -31,7 +35,7 @@ public final class ModelTest {
         letter = new LockedLetter();
         model = new Model();
         run = new StringBuilder("run " + number + ": ");
-        int sort = number % 6;
+        int sort = number % 7;
         int parts = 2 + below(sort == 2 || sort == 4 ? 4 : 7);
         due("sheet(" + parts + ")", letter.sheet(parts) ? 1 : 0, model.sheet(parts) ? 1 : 0);
         for (int i = 0; i < 50; i++) {
@@ -41,6 +45,7 @@ public final class ModelTest {
                 case 2 -> findCall();
                 case 3 -> wayCall();
                 case 4 -> shutAndFind(8);
+                case 5 -> edgeCall();
                 default -> anyCall();
             }
         }
@@ -69,6 +74,59 @@ public final class ModelTest {
             case 2 -> wayCall();
             default -> findMark();
         }
+    }
+
+    // ---- calls with numbers from and beyond the edges
+
+    private int edge() {
+        return EDGES[below(EDGES.length)];
+    }
+
+    private void edgeCall() {
+        int a = edge();
+        int b = edge();
+        boolean c = coin();
+        boolean d = coin();
+        switch (below(11)) {
+            case 0 -> due("fold(" + a + ", " + c + ", " + d + ")", letter.fold(a, c, d), model.fold(a, c, d));
+            case 1 -> due("tuck(" + a + ", " + c + ", " + b + ")", letter.tuck(a, c, b), model.tuck(a, c, b));
+            case 2 -> due("slit(" + a + ", " + b + ")", letter.slit(a, b), model.slit(a, b));
+            case 3 -> due("lock(" + a + ", " + b + ")", letter.lock(a, b), model.lock(a, b));
+            case 4 -> due("seal(" + a + ")", letter.seal(a), model.seal(a));
+            case 5 -> due("back(" + a + ")", letter.back(a), model.back(a));
+            case 6 -> {
+                // The model tells all TALES one by one, which takes too long of many DAYS.
+                if (a > 36 || a + model.count(7) <= 8) {
+                    due("hand(" + a + ")", letter.hand(a), model.hand(a));
+                }
+                due("look(" + b + ", " + a + ")", letter.look(b, a), model.look(b, a));
+            }
+            case 7 -> due("find(" + a + ", 0, " + b + ")", letter.find(a, 0, b) ? 1 : 0, model.find(a, 0, b) ? 1 : 0);
+            case 8 -> due("find(2, " + a + ", " + b + ")", letter.find(2, a, b) ? 1 : 0, model.find(2, a, b) ? 1 : 0);
+            case 9 -> anyCall();
+            default -> askAtEdges(a, b);
+        }
+    }
+
+    private void askAtEdges(int a, int b) {
+        due("part(" + a + ", " + b + ")", letter.part(a, b), model.part(a, b));
+        due("part(0, " + b + ")", letter.part(0, b), model.part(0, b));
+        due("mark(" + a + ")", letter.mark(a), model.mark(a));
+        due("layers(" + a + ")", letter.layers(a), model.layers(a));
+        due("at(" + a + ", " + b + ")", letter.at(a, b), model.at(a, b));
+        due("at(0, " + b + ")", letter.at(0, b), model.at(0, b));
+        due("harm(" + a + ")", letter.harm(a), model.harm(a));
+        due("by(" + a + ")", letter.by(a), model.by(a));
+        due("ease(" + a + ")", letter.ease(a), model.ease(a));
+        due("undone(" + a + ")", letter.undone(a), model.undone(a));
+        due("tale(" + a + ")", letter.tale(a), model.tale(a));
+        due("tales(" + a + ")", letter.tales(a), model.tales(a));
+        due("told(" + a + ", " + b + ")", letter.told(a, b), model.told(a, b));
+        due("told(0, " + b + ")", letter.told(0, b), model.told(0, b));
+        due("opened(" + a + ", " + b + ")", letter.opened(a, b), model.opened(a, b));
+        due("opened(0, " + b + ")", letter.opened(0, b), model.opened(0, b));
+        due("turned(" + a + ")", letter.turned(a), model.turned(a));
+        due("count(" + a + ")", letter.count(a), model.count(a));
     }
 
     // ---- texts

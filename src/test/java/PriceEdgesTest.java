@@ -11,6 +11,8 @@ public final class PriceEdgesTest {
         pricesAreHeld();
         relationsAtTheirEdge();
         andOr();
+        signsThatBindCloser();
+        manyTextsBehindOneAnother();
         layersTurned();
         layersOfPiles();
         columnsAndLines();
@@ -95,24 +97,77 @@ public final class PriceEdgesTest {
         holds("5 == 5", true);
         holds("4 != 5", true);
         holds("5 != 5", false);
-        holds("2*3+4 == 10", true);
-        holds("10 == 4+3*2", true);
     }
 
     private static void andOr() {
-        String[] relations = {"1==2", "1==1"};
+        String[] relations = {"5==6", "8<=8", "4!=4", "2<7", "9<3", "6==6"};
         for (int i = 0; i < 8; i++) {
             boolean a = (i & 1) != 0;
             boolean b = (i & 2) != 0;
             boolean c = (i & 4) != 0;
             String first = relations[i & 1];
-            String second = relations[i >> 1 & 1];
-            String third = relations[i >> 2 & 1];
+            String second = relations[2 + (i >> 1 & 1)];
+            String third = relations[4 + (i >> 2 & 1)];
             holds(first + " and " + second + " or " + third, a && b || c);
             holds(first + " or " + second + " and " + third, a || b && c);
             holds(first + " or " + second + " or " + third, a || b || c);
             holds(first + " and " + second + " and " + third, a && b && c);
         }
+    }
+
+    /** What each of two neighbours in the grammar would tell if the other one bound closer is another number. */
+    private static void signsThatBindCloser() {
+        CHECK.due("* ahead of +", worth("harm 10+3*2;"), 16);
+        CHECK.due("* ahead of -", worth("harm 10-3*2;"), 4);
+        CHECK.due("* ahead of +", worth("harm 3*2+10;"), 16);
+        CHECK.due("- from the left", worth("harm 10-3-2;"), 5);
+        CHECK.due("- and + from the left", worth("harm 10-3+2;"), 9);
+        CHECK.due("+ and - from the left", worth("harm 10+3-2;"), 11);
+        CHECK.due("( ) ahead of *", worth("harm (10-3)*2;"), 14);
+        CHECK.due("( ) ahead of *", worth("harm 2*(10-3)+1;"), 15);
+        CHECK.due("( ) ahead of -", worth("harm 10-(3-2);"), 9);
+        CHECK.due("( ) in ( )", worth("harm 20-(10-(3-2)*(1+1))*2;"), 4);
+        CHECK.due("six ( ) in one another", worth("harm 9-(8-(7-(6-(5-(4-(3))))));"), 6);
+        for (String sign : new String[] {"==", "!=", "<", "<="}) {
+            boolean isLess = sign.equals("<") || sign.equals("<=");
+            boolean isAlike = sign.equals("==") || sign.equals("<=");
+            holds("4+3*2 " + sign + " 10", isAlike);
+            holds("10 " + sign + " 4+3*2", isAlike);
+            holds("10 " + sign + " 4+5", sign.equals("!="));
+            holds("9-3 " + sign + " 9-2", isLess || sign.equals("!="));
+            holds("9-2 " + sign + " 9-3", sign.equals("!="));
+            holds("2*3 " + sign + " 3*2", isAlike);
+            holds("5 " + sign + " 5 and 6 " + sign + " 6", isAlike);
+            holds("5 " + sign + " 5 and 7 " + sign + " 6", false);
+            holds("6 " + sign + " 7 and 7 " + sign + " 6", sign.equals("!="));
+            holds("5 " + sign + " 5 or 6 " + sign + " 7", true);
+            holds("1 != 2 and 6 == 6 and 1 < 2 and 3 <= 3 and 7 " + sign + " 7", isAlike);
+        }
+        CHECK.due("a sum ahead of if", worth("harm 1+2*3 if 1==1; harm 20;"), 7);
+        CHECK.due("a sum ahead of if", worth("harm 1+2*3 if 1==2; harm 4+5*6;"), 34);
+    }
+
+    private static void manyTextsBehindOneAnother() {
+        LockedLetter x = new LockedLetter();
+        x.fold(1, true, true);
+        for (int i = 0; i < 5; i++) {
+            CHECK.due("a long text", Check.read(x, "harm 1" + "+1".repeat(190) + ";"), 0);
+            CHECK.due("its sum", x.harm(0), 191);
+        }
+        for (String broken : new String[] {"harm 1+2*(3-(", "harm 1+2*(3-(4", "harm (1)+2 if (3)*4", "harm 1 if 2==3 and (((((((", "harm 1+"}) {
+            CHECK.due("a text that breaks off", Check.read(x, broken) > 0, true);
+            CHECK.due("one that does not", Check.read(x, "harm 5 if 2*3==6 and 1<2; cut (7)-1;"), 0);
+            CHECK.due("the least of both", x.harm(0), 5);
+            CHECK.due("by the first", x.by(0), 0);
+            CHECK.due("rules", x.count(3), 2);
+        }
+        LockedLetter y = new LockedLetter();
+        y.fold(1, true, true);
+        for (int i = 0; i < 40; i++) {
+            CHECK.due("a text that breaks off", Check.read(y, "harm (1+("), 1);
+        }
+        CHECK.due("one that does not", Check.read(y, "harm 10-(3-2)*(2+2) if 2*3==6 and 1<2;"), 0);
+        CHECK.due("its harm", y.harm(0), 6);
     }
 
     // ---- VARS of an ACT
@@ -168,6 +223,10 @@ public final class PriceEdgesTest {
     private static void layersOfPiles() {
         harms("layers", onePile("layers"), 4, 4, 4, 1, 8, 2, 8, 2, 0);
         harms("kind", onePile("kind"), 0, 0, 0, 2, 2, 3, 3, 4, 5);
+        LockedLetter x = withVar("kind", 4);
+        x.tuck(2, true, 0);
+        x.tuck(1, true, 8);
+        harms("kind of tucks", x, 1, 1);
     }
 
     private static void columnsAndLines() {
@@ -445,6 +504,13 @@ public final class PriceEdgesTest {
         y.undo();
         CHECK.sights("which is undone; the mark stays", y, 2, 2);
         CHECK.due("wax", y.part(0, 4), 1);
+        LockedLetter w = peeped(4);
+        w.fold(1, false, true);
+        w.fold(2, true, true);
+        w.seal(0);
+        w.fold(1, false, true);
+        CHECK.packet("c bound to b below it, d laid over", w, "aBcD");
+        CHECK.sights("neither a and b nor c and d are bound to one another", w, 2, 2, 2, 2);
         LockedLetter z = peeped(4);
         z.fold(2, false, true);
         z.seal(0);

@@ -130,16 +130,25 @@ public final class TapeEdgesTest {
         Check.feed(x, "cut 12; trick 3;");
         CHECK.due("back of all", x.back(16), 0);
         CHECK.due("back(1) of nothing", x.back(1), -1);
-        Check.feed(x, "harm 1 if 1<=");
-        x.back(1);
-        CHECK.due("a sign that lost its second byte", x.read(), 1);
-        CHECK.due("breaks off behind its first", x.place(), 12);
+        shortened("harm 1 if 1<=", 1, 12);
+        shortened("harm 1234;", 2, 8);
+        shortened("harm kind;", 2, 5);
+        shortened("harm 1;  ", 4, 5);
         Check.feed(x, "cut 1");
         CHECK.due("what is fed then comes behind what stayed", x.feed(0x3b202020, BLANK, BLANK, BLANK, BLANK), 25);
         CHECK.due("read", x.read(), 0);
         LockedLetter y = new LockedLetter();
         fill(y, 2000);
         CHECK.due("back(2000) of a full tape", y.back(2000), 0);
+    }
+
+    /** What went back still lies behind the end, but is no part of a TOKEN there. */
+    private static void shortened(String text, int n, int place) {
+        LockedLetter x = new LockedLetter();
+        Check.feed(x, text);
+        CHECK.due("back(" + n + ")", x.back(n), text.length() - n);
+        CHECK.due("read of '" + text + "' less " + n, x.read(), 1);
+        CHECK.due("place", x.place(), place);
     }
 
     private static void backThatIsRefused() {
@@ -178,6 +187,14 @@ public final class TapeEdgesTest {
         CHECK.fault(blanks + "cut1#", 1, 1999);
         CHECK.fault("cut1;" + blanks, 0, -1);
         CHECK.fault("cut1 " + blanks, 1, 2000);
+        CHECK.fault(blanks + " cut1", 1, 2000);
+        CHECK.fault(blanks + "  cut", 1, 2000);
+        CHECK.fault(blanks + "cut1+", 1, 2000);
+        CHECK.fault(blanks + "cut1<", 1, 1999);
+        CHECK.fault(blanks + "cut1=", 1, 1999);
+        CHECK.fault("cut1if1 " + " ".repeat(1991) + "<", 1, 2000);
+        CHECK.fault("cut1if1 " + " ".repeat(1991) + "=", 1, 1999);
+        CHECK.fault("cut1if1 " + " ".repeat(1990) + "==", 1, 2000);
         LockedLetter x = new LockedLetter();
         Check.read(x, blanks + "cut1;");
         CHECK.due("its one rule", x.count(3), 1);
@@ -300,6 +317,7 @@ public final class TapeEdgesTest {
         for (String sort : SORTS) {
             CHECK.fault(sort + " 1;", 0, -1);
             CHECK.fault(sort.substring(1) + " 1;", 1, 0);
+            CHECK.fault("z" + sort.substring(1) + " 1;", 1, 0);
             CHECK.fault(sort.substring(0, sort.length() - 1) + " 1;", 1, 0);
             CHECK.fault(sort + "s 1;", 1, 0);
             CHECK.fault(sort.toUpperCase() + " 1;", 1, 0);
@@ -308,6 +326,7 @@ public final class TapeEdgesTest {
         for (String var : VARS) {
             CHECK.fault("harm " + var + ";", 0, -1);
             CHECK.fault("harm " + var.substring(1) + ";", 1, 5);
+            CHECK.fault("harm z" + var.substring(1) + ";", 1, 5);
             CHECK.fault("harm " + var.substring(0, var.length() - 1) + ";", 1, 5);
             CHECK.fault("harm " + var + "s;", 1, 5);
             CHECK.fault(var + " 1;", 1, 0);

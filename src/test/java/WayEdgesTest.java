@@ -24,6 +24,7 @@ public final class WayEdgesTest {
         costsWithoutRules();
         costsAreHeld();
         sumsAreNotHeld();
+        costsOfWhatComesLater();
         firstRuleThatHolds();
         varsOfChanges();
         varsOfDoubts();
@@ -348,6 +349,21 @@ public final class WayEdgesTest {
         }
         CHECK.due("a change each day", y.tale(36), 36 * 499);
         CHECK.told("a change each day", y, 36, "12".repeat(18));
+    }
+
+    /** Prices hold for HANDS and LOOKS that come behind a question too. */
+    private static void costsOfWhatComesLater() {
+        LockedLetter x = seen("doubt 700 + number; opens 20 + column;", 1, 0, 0);
+        CHECK.due("whole", x.tale(1), 0);
+        x.hand(1);
+        CHECK.due("whole", x.tale(1), 0);
+        CHECK.due("one tale", x.tales(1), 1);
+        x.look(1, 1);
+        CHECK.due("opened on day 1", x.tale(2), 21);
+        x.look(1, 0);
+        CHECK.due("and doubted there, or not opened", x.tale(3), 701);
+        x.read();
+        CHECK.due("without rules", x.tale(3), 10);
     }
 
     private static void firstRuleThatHolds() {
