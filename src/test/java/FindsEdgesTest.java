@@ -575,6 +575,11 @@ public final class FindsEdgesTest {
         CHECK.due("both rows crease the last line up", x.shut(), 2);
         creases(x, 0, 3, 3, 2);
         CHECK.due("both rows crease the last line down", x.shut(), 2);
+        LockedLetter w = Check.of(6);
+        for (int middle = 1; middle <= 2; middle++) {
+            creases(w, 3, 3, middle, 3, 3);
+            CHECK.due("both rows crease the middle line alike", w.shut(), 2);
+        }
         LockedLetter y = Check.of(8);
         creases(y, 1, 1, 1, 1, 1, 1, 0);
         CHECK.due("three and three", y.shut(), 2);
