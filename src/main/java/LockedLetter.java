@@ -795,6 +795,10 @@ public final class LockedLetter {
         }
 
         void lay(int p, int c, int l, boolean isUp) {
+            // Places are reckoned, not counted up to: none may lie beyond the rows, whatever was reckoned.
+            if (c < 0 || c >= MAX_PARTS || l < 0 || l >= MAX_PARTS) {
+                return;
+            }
             column[p] = c;
             layer[p] = l;
             up[p] = isUp;

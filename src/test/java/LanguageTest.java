@@ -1,4 +1,9 @@
 import java.io.IOException;
+import java.lang.reflect.Constructor;
+import java.lang.reflect.Executable;
+import java.lang.reflect.Field;
+import java.lang.reflect.Method;
+import java.lang.reflect.Modifier;
 import java.nio.file.Files;
 import java.nio.file.Path;
 import java.util.ArrayList;
@@ -8,7 +13,7 @@ import java.util.TreeSet;
 import java.util.regex.Matcher;
 import java.util.regex.Pattern;
 
-/** The rules of LANGUAGE.md that can be seen in the text of the class; run from the project's root. */
+/** The document's face, and the rules of LANGUAGE.md that can be seen in the text of the class; run from the project's root. */
 public final class LanguageTest {
     private static final Check CHECK = new Check("LanguageTest");
     private static final Pattern HEAD = Pattern.compile(
@@ -21,7 +26,41 @@ public final class LanguageTest {
         forbidden(code);
         methods(code);
         classes(code);
+        face(Files.readString(Path.of("../shared/DOC.md")));
         CHECK.end();
+    }
+
+    /** What is public of the class is what the document's face says, word for word. */
+    private static void face(String document) {
+        Set<String> due = new TreeSet<>();
+        Matcher line = Pattern.compile("(?m)^    public (.*?)( = -1)?;$").matcher(document);
+        while (line.find()) {
+            due.add(line.group(1).replaceAll("(\\w+) \\w+(?=[,)])", "$1"));
+        }
+        Set<String> is = new TreeSet<>();
+        for (Field field : LockedLetter.class.getFields()) {
+            is.add(Modifier.toString(field.getModifiers() & ~Modifier.PUBLIC) + " " + field.getType() + " " + field.getName());
+        }
+        for (Constructor<?> one : LockedLetter.class.getConstructors()) {
+            is.add(one.getName() + types(one));
+        }
+        for (Method method : LockedLetter.class.getDeclaredMethods()) {
+            if (Modifier.isPublic(method.getModifiers())) {
+                is.add(method.getReturnType() + " " + method.getName() + types(method));
+            }
+        }
+        CHECK.due("lines of the face", due.size(), 33 + 2);
+        CHECK.due("the face is " + is + ", due is " + due + "; alike", is.equals(due), true);
+        CHECK.due("NONE", LockedLetter.NONE, -1);
+        CHECK.due("final", Modifier.isFinal(LockedLetter.class.getModifiers()), true);
+    }
+
+    private static String types(Executable one) {
+        List<String> names = new ArrayList<>();
+        for (Class<?> type : one.getParameterTypes()) {
+            names.add(type.getName());
+        }
+        return "(" + String.join(", ", names) + ")";
     }
 
     private static void plainText(String source) {
